@@ -15,7 +15,7 @@ public final class SegmentedCache {
 
     /** Where a key is. */
     private static final int NOWHERE = 0, PROBATION = 1, PROTECTED = 2;
-    private static final int PROBATION_GHOSTS = 3, PROTECTED_GHOSTS = 4, QUEUES = 4;
+    private static final int PROBATION_GHOSTS = 3, PROTECTED_GHOSTS = 4, PLACES = 5;
 
     /** The rows of facts about keys, by the numbers that of has for them. */
     private static final int WHERE = 0, WEIGHT = 1, COST = 2, HITS = 3, CHANCES = 4, PINNED = 5;
@@ -91,7 +91,7 @@ public final class SegmentedCache {
             return live.settings[what];
         }
         if (what < TOLD_TALLIES) {
-            return live.queues[what - TOLD_WEIGHTS].weight;
+            return live.queues.weights[what - TOLD_WEIGHTS + PROBATION];
         }
         if (what < TOLD_WENT) {
             return live.tallies[what - TOLD_TALLIES];
@@ -180,11 +180,10 @@ public final class SegmentedCache {
     }
 
     public int key(int where, int k) {
-        if (where < PROBATION || where > QUEUES || k < 0) {
+        if (where < PROBATION || where >= PLACES || k < 0) {
             return NONE;
         }
-        Queue queue = live.queueOf(where);
-        return k < queue.size ? queue.keys[k] : NO_SUCH;
+        return live.queues.keyAt(where, k);
     }
 
     public int gone(int k) {
@@ -311,12 +310,14 @@ public final class SegmentedCache {
         if (where != PROBATION && where != PROTECTED || !isPart(part)) {
             return NO;
         }
-        Queue queue = live.queueOf(where);
+        int size = live.queues.sizes[where];
         int costs = 0;
-        for (int k = 0; k < queue.size; k++) {
-            costs += live.facts[COST][queue.keys[k]];
+        int key = live.queues.oldest(where);
+        for (int k = 0; k < size; k++) {
+            costs += live.facts[COST][key];
+            key = live.queues.newer[key];
         }
-        return partOf(costs, queue.size, part);
+        return partOf(costs, size, part);
     }
 
     private boolean isTrace(int trace) {
@@ -359,7 +360,7 @@ public final class SegmentedCache {
         if (key < 0) {
             return NONE;
         }
-        if (where < NOWHERE || where > QUEUES) {
+        if (where < NOWHERE || where >= PLACES) {
             return BAD;
         }
         if (rows.size >= BOOK_ROWS) {
@@ -391,18 +392,17 @@ public final class SegmentedCache {
         if (row.sort != EMPTY && row.sort != SHORTS) {
             return CAST;
         }
-        Queue queue = live.queueOf(PROBATION);
-        if (queue.size == 0) {
-            return NO_SUCH;
-        }
+        int size = live.queues.sizes[PROBATION];
         int told = row.sort == EMPTY || i < 0 || i > row.length ? 0 : row.length - i;
-        for (int k = 0; k < queue.size; k++) {
+        int key = live.queues.oldest(PROBATION);
+        for (int k = 0; k < size; k++) {
             if (k >= told) {
                 return ROW_ENDED + k;
             }
-            if (row.items[i + k] != queue.keys[k]) {
+            if (row.items[i + k] != key) {
                 return k;
             }
+            key = live.queues.newer[key];
         }
         return NO_SUCH;
     }
@@ -429,7 +429,7 @@ public final class SegmentedCache {
             case 1:
             case 2:
             case 3:
-                return live.queues[what].size;
+                return live.queues.sizes[what + PROBATION];
             case 4:
                 return traceCount;
             case 5:
@@ -512,8 +512,7 @@ public final class SegmentedCache {
     private static final class Store {
         final int[] settings = new int[SETTINGS];
         final int[] tallies = new int[TALLIES];
-        /** Queue w - 1 is the one told as where w. */
-        final Queue[] queues = new Queue[QUEUES];
+        final Queues queues = new Queues();
         final int[][] facts = new int[FACTS][KEYS];
         final Leavers leavers = new Leavers();
         final Book book = new Book();
@@ -523,26 +522,17 @@ public final class SegmentedCache {
             settings[BORDER] = 10;
             settings[RISE] = 2;
             settings[LIVES] = 1;
-            for (int i = 0; i < QUEUES; i++) {
-                queues[i] = new Queue();
-            }
         }
 
         void copyFrom(Store other) {
             System.arraycopy(other.settings, 0, settings, 0, SETTINGS);
             System.arraycopy(other.tallies, 0, tallies, 0, TALLIES);
-            for (int i = 0; i < QUEUES; i++) {
-                queues[i].copyFrom(other.queues[i]);
-            }
+            queues.copyFrom(other.queues);
             for (int i = 0; i < FACTS; i++) {
                 System.arraycopy(other.facts[i], 0, facts[i], 0, KEYS);
             }
             leavers.copyFrom(other.leavers);
             book.copyFrom(other.book);
-        }
-
-        Queue queueOf(int where) {
-            return queues[where - 1];
         }
 
         boolean isThing(int key) {
@@ -551,27 +541,27 @@ public final class SegmentedCache {
         }
 
         int thingCount() {
-            return queueOf(PROBATION).size + queueOf(PROTECTED).size;
+            return queues.sizes[PROBATION] + queues.sizes[PROTECTED];
         }
 
         int weightOfThings() {
-            return queueOf(PROBATION).weight + queueOf(PROTECTED).weight;
+            return queues.weights[PROBATION] + queues.weights[PROTECTED];
         }
 
         int placeOf(int key) {
             int where = facts[WHERE][key];
-            return where == NOWHERE ? NO_SUCH : queueOf(where).placeOf(key);
+            return where == NOWHERE ? NO_SUCH : queues.placeOf(where, key);
         }
 
         /** The key leaves where it is and is the newest there where it comes to. */
         void move(int key, int to) {
             int from = facts[WHERE][key];
             if (from != NOWHERE) {
-                queueOf(from).remove(key, facts[WEIGHT][key]);
+                queues.remove(from, key, facts[WEIGHT][key]);
             }
             facts[WHERE][key] = to;
             if (to != NOWHERE) {
-                queueOf(to).add(key, facts[WEIGHT][key]);
+                queues.add(to, key, facts[WEIGHT][key]);
             }
         }
 
@@ -590,7 +580,7 @@ public final class SegmentedCache {
         }
 
         void replace(int key, int value, int weight, int cost) {
-            queueOf(facts[WHERE][key]).weight += weight - facts[WEIGHT][key];
+            queues.weights[facts[WHERE][key]] += weight - facts[WEIGHT][key];
             facts[VALUE][key] = value;
             facts[WEIGHT][key] = weight;
             facts[COST][key] = cost;
@@ -646,9 +636,8 @@ public final class SegmentedCache {
         }
 
         void demote() {
-            Queue from = queueOf(PROTECTED);
-            for (int step = 0; step < STEPS && from.weight > settings[BORDER]; step++) {
-                int key = from.oldestLoose(facts[PINNED]);
+            for (int step = 0; step < STEPS && queues.weights[PROTECTED] > settings[BORDER]; step++) {
+                int key = queues.oldestLoose(PROTECTED, facts[PINNED]);
                 if (key < 0) {
                     return;
                 }
@@ -660,10 +649,10 @@ public final class SegmentedCache {
         void makeRoom() {
             for (int step = 0; step < STEPS && weightOfThings() > settings[CAPACITY]; step++) {
                 int ghosts = PROBATION_GHOSTS;
-                int key = queueOf(PROBATION).oldestLoose(facts[PINNED]);
+                int key = queues.oldestLoose(PROBATION, facts[PINNED]);
                 if (key < 0) {
                     ghosts = PROTECTED_GHOSTS;
-                    key = queueOf(PROTECTED).oldestLoose(facts[PINNED]);
+                    key = queues.oldestLoose(PROTECTED, facts[PINNED]);
                 }
                 if (key < 0) {
                     return;
@@ -680,9 +669,9 @@ public final class SegmentedCache {
         }
 
         void forget(int ghosts) {
-            Queue queue = queueOf(ghosts);
-            for (int step = 0; step < STEPS && queue.weight > settings[CAPACITY] && queue.size > 0; step++) {
-                move(queue.keys[0], NOWHERE);
+            int size = queues.sizes[ghosts];
+            for (int k = 0; k < size && queues.weights[ghosts] > settings[CAPACITY]; k++) {
+                move(queues.oldest(ghosts), NOWHERE);
             }
         }
 
@@ -709,50 +698,83 @@ public final class SegmentedCache {
         }
     }
 
-    /** Keys in order, the oldest first. A key stands in one queue at most, so there is room for all. */
-    private static final class Queue {
-        final int[] keys = new int[KEYS];
-        int size;
-        int weight;
+    /**
+     * Keys in order, in each place where a key can be. They are chained from the oldest to the newest, and the end
+     * of the place is beside both, so that a key leaves and comes without a look at the others.
+     */
+    private static final class Queues {
+        final int[] sizes = new int[PLACES];
+        final int[] weights = new int[PLACES];
+        final int[] newer = new int[KEYS + PLACES];
+        private final int[] older = new int[KEYS + PLACES];
 
-        void copyFrom(Queue other) {
-            System.arraycopy(other.keys, 0, keys, 0, other.size);
-            size = other.size;
-            weight = other.weight;
+        Queues() {
+            for (int where = 0; where < PLACES; where++) {
+                newer[KEYS + where] = KEYS + where;
+                older[KEYS + where] = KEYS + where;
+            }
         }
 
-        int placeOf(int key) {
-            for (int k = 0; k < size; k++) {
-                if (keys[k] == key) {
-                    return k;
+        void copyFrom(Queues other) {
+            System.arraycopy(other.sizes, 0, sizes, 0, PLACES);
+            System.arraycopy(other.weights, 0, weights, 0, PLACES);
+            System.arraycopy(other.newer, 0, newer, 0, KEYS + PLACES);
+            System.arraycopy(other.older, 0, older, 0, KEYS + PLACES);
+        }
+
+        void add(int where, int key, int weight) {
+            int end = KEYS + where;
+            int newest = older[end];
+            newer[newest] = key;
+            older[key] = newest;
+            newer[key] = end;
+            older[end] = key;
+            sizes[where]++;
+            weights[where] += weight;
+        }
+
+        void remove(int where, int key, int weight) {
+            newer[older[key]] = newer[key];
+            older[newer[key]] = older[key];
+            sizes[where]--;
+            weights[where] -= weight;
+        }
+
+        /** The oldest key, or the end if there is none. */
+        int oldest(int where) {
+            return newer[KEYS + where];
+        }
+
+        int keyAt(int where, int place) {
+            int key = oldest(where);
+            for (int k = 0; k < sizes[where]; k++) {
+                if (k == place) {
+                    return key;
                 }
+                key = newer[key];
             }
             return NO_SUCH;
         }
 
-        void add(int key, int heavy) {
-            if (size < KEYS) {
-                keys[size] = key;
-                size++;
-                weight += heavy;
+        int placeOf(int where, int key) {
+            int other = oldest(where);
+            for (int k = 0; k < sizes[where]; k++) {
+                if (other == key) {
+                    return k;
+                }
+                other = newer[other];
             }
-        }
-
-        void remove(int key, int heavy) {
-            int place = placeOf(key);
-            if (place >= 0) {
-                System.arraycopy(keys, place + 1, keys, place, size - place - 1);
-                size--;
-                weight -= heavy;
-            }
+            return NO_SUCH;
         }
 
         /** The oldest key that isn't pinned, or NO_SUCH. */
-        int oldestLoose(int[] pinned) {
-            for (int k = 0; k < size; k++) {
-                if (pinned[keys[k]] == 0) {
-                    return keys[k];
+        int oldestLoose(int where, int[] pinned) {
+            int key = oldest(where);
+            for (int k = 0; k < sizes[where]; k++) {
+                if (pinned[key] == 0) {
+                    return key;
                 }
+                key = newer[key];
             }
             return NO_SUCH;
         }

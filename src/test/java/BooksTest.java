@@ -157,6 +157,9 @@ final class BooksTest {
             tape(0, 1, 1) = 1
             item(0, 0, 2) = 1
             judge(0, 0) = -5
+            judge(1, 0) = 100
+            item(0, 0, 3) = 1
+            judge(0, 0) = 0
             """);
     }
 
@@ -253,6 +256,23 @@ final class BooksTest {
             count(4) = 2
             run(1) = 0
             told(9) = 1
+            """);
+        Script.play("23 what is gone is as it was, however many went since", """
+            set(3, 0) = 1
+            set(0, 1) = 20
+            put(2, 1, 1, 1, 1) = 0
+            put(2, 2, 1, 1, 1) = 0
+            put(2, 3, 1, 1, 1) = 0
+            image() = 1
+            trace("pa1=1;pa2=1;pa3=1;pa4=1;pa5=1;pa6=1;pa7=1;pa8=1;pa9=1;pb1=1;pb2=1;pb3=1;pb4=1;pb5=1;pb6=1") = 0
+            """ + "run(0) = 0\n".repeat(60) + """
+            told(13) = 902
+            gone(0) = 105
+            undo() = 1
+            told(13) = 2
+            gone(0) = 202
+            gone(1) = 201
+            gone(2) = -5
             """);
         Script.play("22 things are of both queues, no ghosts", """
             set(2, 1) = 2

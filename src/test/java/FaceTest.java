@@ -60,7 +60,8 @@ final class FaceTest {
                 Modifier.PUBLIC | Modifier.STATIC | Modifier.FINAL);
             seen.add(field.getType() + " " + field.getName() + " " + field.get(null));
         }
-        Set<String> due = Set.of("int NONE -1", "int BAD -2", "int STATE -3", "int FULL -4", "long NO " + Long.MIN_VALUE);
+        Set<String> due = Set.of("int NONE -1", "int BAD -2", "int STATE -3", "int FULL -4",
+            "long NO " + Long.MIN_VALUE);
         Script.check("the constants " + seen, seen.equals(due) ? 1 : 0, 1);
     }
 }

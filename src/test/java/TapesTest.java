@@ -34,8 +34,10 @@ final class TapesTest {
             item(0, 5, 7) = 1
             tape(0, 2, 10) = 1
             read(0, 5) = 0
+            item(0, 0, 7) = 1
             item(0, 9, 7) = 1
             tape(0, 2, 9) = 1
+            read(0, 0) = 0
             tape(0, 2, 10) = 1
             read(0, 9) = 0
             tape(0, -1, -5) = 1

@@ -589,6 +589,29 @@ final class ThingsTest {
             gone(0) = -5
             count(2) = 0
             """);
+        Script.play("11 the border is 0, so a protected one comes to probation", """
+            set(2, 1) = 2
+            set(3, 0) = 1
+            put(0, 0, 1, 1, 1) = 0
+            get(0, 0) = 1
+            set(3, 1) = 0
+            put(0, 1, 1, 1, 1) = 0
+            victim(0) = 0
+            victim(1) = 1
+            """);
+        Script.play("11 what went ahead is no victim", """
+            set(3, 0) = 1
+            set(0, 2) = 20
+            put(0, 0, 1, 1, 1) = 0
+            put(0, 1, 1, 1, 1) = 0
+            put(0, 2, 1, 1, 1) = 0
+            put(0, 3, 1, 1, 1) = 0
+            gone(1) = 0
+            victim(0) = 2
+            victim(1) = 3
+            victim(2) = -5
+            victim(3) = -5
+            """);
         StringBuilder lines = new StringBuilder("set(0, 99) = 20\nset(3, 0) = 1\n");
         for (int i = 0; i < 99; i++) {
             lines.append("put(2, ").append(i).append(", 1, 1, 1) = 0\n");

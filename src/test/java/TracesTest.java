@@ -11,6 +11,7 @@ final class TracesTest {
         run();
         would();
         need();
+        needByABorder();
         odds();
         mean();
         Script.end();
@@ -119,7 +120,11 @@ final class TracesTest {
         Script.play("13 a text of 100 signs that ends too early", "trace(\"" + fourteen + "ga\") = -110\ncount(6) = 0");
         Script.play("13 a fault at the last sign", "trace(\"" + fourteen + "gg\") = -109\ncount(4) = 0");
         String hundred = "pa12=1;".repeat(13) + "ga1;pa1=1";
-        Script.play("13 a trace of 100 signs", "trace(\"" + hundred + "\") = 0\nrun(0) = 0\ncount(0) = 1\ncount(1) = 1");
+        Script.play("13 a trace of 100 signs", "trace(\"" + hundred + "\") = 0\n" + """
+            run(0) = 0
+            count(0) = 1
+            count(1) = 1
+            """);
     }
 
     private static void run() {
@@ -293,6 +298,18 @@ final class TracesTest {
             need(1, 1) = 10
             pin(0, 1, true) = 0
             need(1, 1) = 1
+            """);
+    }
+
+    private static void needByABorder() {
+        Script.play("16 the border is no more than it is", """
+            set(2, 1) = 2
+            set(3, 0) = 1
+            set(1, 0) = 10
+            trace("pa1=3;ga1;pa2=3;pa3=3;ga1") = 0
+            need(0, 2) = 9
+            set(1, 20) = 0
+            need(0, 2) = 3
             """);
     }
 
