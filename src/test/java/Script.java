@@ -2,10 +2,14 @@ import java.lang.reflect.InvocationTargetException;
 import java.lang.reflect.Method;
 
 /**
- * Plays runs of calls that are written as text, one call a line: name(arguments) = the answer that is due.
- * trace("ga1") feeds the signs between the quotes first. Lines that begin with # say why.
+ * Plays runs of calls that are written as text, one call a line, or several with " | " between them:
+ * name(arguments) = the answer that is due. trace("ga1") feeds the signs between the quotes first.
+ * Lines that begin with # say why.
  */
 final class Script {
+    /** What an object answers behind so many calls is not promised. */
+    static final int MOST_CALLS = 512;
+
     private static int asked = 0;
     private static int wrong = 0;
 
@@ -15,14 +19,30 @@ final class Script {
     /** Each run is on a new object. */
     static void play(String title, String lines) {
         SegmentedCache cache = new SegmentedCache();
+        if (play(title, lines, cache) > MOST_CALLS) {
+            throw new IllegalStateException(title + " makes more than " + MOST_CALLS + " calls");
+        }
+    }
+
+    /** How many calls were made. */
+    static int play(String title, String lines, SegmentedCache cache) {
+        int calls = 0;
         for (String line : lines.split("\n")) {
-            String call = line.strip();
-            if (!call.isEmpty() && !call.startsWith("#")) {
-                int cut = call.lastIndexOf(") =");
-                String due = call.substring(cut + 3).strip();
-                check(title + ": " + call, answer(cache, call.substring(0, cut)), number(due));
+            if (!line.strip().startsWith("#")) {
+                for (String part : line.split(" \\| ")) {
+                    String call = part.strip();
+                    calls += call.isEmpty() ? 0 : one(title, call, cache);
+                }
             }
         }
+        return calls;
+    }
+
+    private static int one(String title, String call, SegmentedCache cache) {
+        int cut = call.lastIndexOf(") =");
+        String due = call.substring(cut + 3).strip();
+        check(title + ": " + call, answer(cache, call.substring(0, cut)), number(due));
+        return 1 + (call.contains("\"") ? call.lastIndexOf('"') - call.indexOf('"') - 1 : 0);
     }
 
     static void check(String call, long got, long due) {
@@ -41,7 +61,7 @@ final class Script {
         }
     }
 
-    private static long answer(SegmentedCache cache, String call) {
+    static long answer(SegmentedCache cache, String call) {
         int cut = call.indexOf('(');
         String name = call.substring(0, cut).strip();
         String inside = call.substring(cut + 1).strip();
@@ -96,7 +116,7 @@ final class Script {
         return ((Number) answer).longValue();
     }
 
-    private static long number(String word) {
+    static long number(String word) {
         switch (word) {
             case "NONE": return SegmentedCache.NONE;
             case "BAD": return SegmentedCache.BAD;
