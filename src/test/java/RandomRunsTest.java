@@ -3,7 +3,7 @@ import java.lang.reflect.Method;
 import java.util.ArrayList;
 import java.util.List;
 
-/** All promises: long runs of calls, the same on the class and on the model, have the same answers. */
+/** All promises: runs of up to 512 calls, the same on the class and on the model, have the same answers. */
 final class RandomRunsTest {
     private static final String[] CHANGES = {"set", "put", "put", "put", "put", "put", "put", "put", "get", "get",
         "get", "get", "get", "get", "drop", "pin", "pin", "run", "run", "book", "image", "undo", "tape", "item",
@@ -15,6 +15,7 @@ final class RandomRunsTest {
     private final SegmentedCache cache = new SegmentedCache();
     private final Model model = new Model();
     private final List<String> before = new ArrayList<>();
+    private int calls;
     private final int spaces;
     private final int numbers;
     private final int mostCapacity;
@@ -32,7 +33,7 @@ final class RandomRunsTest {
     }
 
     public static void main(String[] args) throws IllegalAccessException {
-        for (int run = 0; run < 600; run++) {
+        for (int run = 0; run < 3000; run++) {
             new RandomRunsTest(run).play("run " + run);
         }
         Script.end();
@@ -45,8 +46,9 @@ final class RandomRunsTest {
 
     private void play(String title) throws IllegalAccessException {
         both(title, "set", 0, 1 + below(mostCapacity));
-        for (int call = 0; call < 400; call++) {
-            if (below(40) == 0) {
+        int changing = 100 + below(270);
+        while (calls < changing) {
+            if (below(60) == 0) {
                 feedTrace();
                 both(title, "trace");
             } else {
@@ -54,7 +56,9 @@ final class RandomRunsTest {
                 any(title, names[below(names.length)]);
             }
         }
-        all(title);
+        while (calls < Script.MOST_CALLS) {
+            askAny(title);
+        }
     }
 
     private void any(String title, String name) throws IllegalAccessException {
@@ -136,33 +140,35 @@ final class RandomRunsTest {
         for (int i = 0; i < text.length(); i++) {
             model.feed(text.charAt(i));
         }
+        calls += text.length();
         before.add("feed \"" + text + "\"");
     }
 
-    /** Keys, queues, ghosts and the rest, wholly. */
-    private void all(String title) throws IllegalAccessException {
-        for (int what = 0; what < 14; what++) {
-            both(title, "told", what);
-        }
-        for (int what = 0; what < 7; what++) {
-            both(title, "count", what);
-        }
-        for (int key = 0; key < 400; key++) {
-            for (int what = 0; what < 7; what++) {
-                both(title, "of", key / 100, key % 100, what);
-            }
-        }
-        for (int k = 0; k < 110; k++) {
-            for (int where = 1; where < 5; where++) {
-                both(title, "key", where, k);
-            }
-            both(title, "gone", k);
-            both(title, "victim", k);
-        }
-        for (int tape = 0; tape < 6; tape++) {
-            for (int i = 0; i < 60; i++) {
-                both(title, "read", tape, i);
-            }
+    /** One of all that can be asked about what there is. */
+    private void askAny(String title) throws IllegalAccessException {
+        int key = 100 * below(spaces) + below(numbers);
+        switch (below(8)) {
+            case 0:
+                both(title, "told", below(14));
+                break;
+            case 1:
+                both(title, "count", below(7));
+                break;
+            case 2:
+                both(title, "gone", below(22));
+                break;
+            case 3:
+                both(title, "victim", below(12));
+                break;
+            case 4:
+                both(title, "read", below(6), below(62));
+                break;
+            case 5:
+                both(title, "key", 1 + below(4), below(14));
+                break;
+            default:
+                both(title, "of", key / 100, key % 100, below(7));
+                break;
         }
     }
 
@@ -171,6 +177,7 @@ final class RandomRunsTest {
         String call = name + List.of(arguments);
         try {
             Method theirs = Model.class.getMethod(name, ours.getParameterTypes());
+            calls++;
             long got = Script.toLong(ours.invoke(cache, arguments));
             long due = Script.toLong(theirs.invoke(model, arguments));
             before.add(call + " = " + due);
