@@ -7,40 +7,43 @@ import java.util.List;
  */
 final class NothingChangesTest {
     private static final String TAPES = """
-        tape(0, 1, 5) = 1 | item(0, 1, 1) = 1 | item(0, 2, 2) = 1 | tape(1, 2, 3) = 1 | item(1, 0, 70000) = 1
-        tape(2, 0, 4) = 1 | item(2, 3, -5) = 1 | tape(3, 3, 2) = 1 | item(3, 1, MAX) = 1 | tape(4, 4, 2) = 1
-        item(4, 0, 1) = 1
+        tape(1, 2, 3) = 1 | item(1, 0, 70000) = 1 | tape(2, 0, 4) = 1 | item(2, 3, -5) = 1
+        tape(3, 3, 2) = 1 | item(3, 1, MAX) = 1 | tape(4, 4, 2) = 1 | item(4, 0, 1) = 1
         """;
 
-    /** Ghosts of either, things of either, pinned ones, all that is counted above 0; CAPACITY 8, an older image. */
-    private static final String RICH = """
+    /**
+     * Ghosts of either, things of either, a pinned one, all that is counted above 0, rows of the book that are right,
+     * an older image, PROBATION told by a row of shorts; CAPACITY 8.
+     */
+    private static final String THINGS = """
         set(2, 1) = 2 | put(0, 0, 50, 8, 5) = 0 | get(0, 0) = 50 | put(0, 1, 51, 9, 6) = 0 | pin(0, 1, true) = 0
         set(0, 10) = 20 | set(3, 0) = 1 | put(0, 2, 52, 2, 7) = 0 | put(0, 3, 53, 1, 8) = 0 | get(0, 3) = 53
         book(0, 0, 4) = 1 | book(0, 3, 2) = 2 | image() = 2
         put(0, 1, 61, 1, 9) = 2 | set(3, 2) = 0 | put(0, 4, 54, 3, 30) = 0 | set(3, 0) = 2 | put(0, 5, 55, 1, 40) = 0
-        set(2, 3) = 1
-        get(0, 5) = 55 | get(0, 0) = NO | get(3, 3) = NO | set(0, 8) = 10 | book(0, 5, 1) = 3 | book(0, 2, 3) = 4
-        trace("pa6=4;ga4;ga5;xa2;ga0") = 0 | trace("pa0=3;pa2=2;ga1") = 1 | feed(103) = 1 | feed(97) = 2
+        set(2, 3) = 1 | get(0, 5) = 55 | get(0, 0) = NO | get(3, 3) = NO | set(0, 8) = 10 | book(0, 5, 1) = 3
+        book(0, 2, 3) = 4 | looked() = -5
+        tape(0, 1, 5) = 1 | item(0, 1, 4) = 1 | item(0, 2, 5) = 1 | judge(0, 1) = -5
         """ + TAPES;
+    private static final String TWO_TRACES = """
+        trace("pa6=4;ga4;ga5;xa2;ga0") = 0 | trace("pa0=3;pa2=2;ga1") = 1
+        """;
+    private static final String RICH = THINGS + TWO_TRACES + "feed(103) = 1 | feed(97) = 2";
+    private static final String FULL_BOOK = "book(0, 1, 2) = 5 | book(0, 4, 1) = 6 | book(3, 77, 0) = 7 | "
+        + "book(2, 9, 0) = 8\n";
+    private static final String FULL_TEXT = THINGS + TWO_TRACES + FULL_BOOK + text("pa12=1;".repeat(13) + "ga12;ga12");
+    private static final String SIX_TRACES = THINGS + TWO_TRACES + FULL_BOOK + """
+        trace("ga5;xa4") = 2 | trace("pa9=8") = 3 | trace("xa1") = 4 | trace("ga3;ga3") = 5
+        feed(103) = 1 | feed(97) = 2
+        """;
 
-    /** The next TRIM makes 0, 0 go; the image is of another state; THE TEXT is at fault. */
-    private static final String DUE = """
-        put(2, 5, 9, 1, 9) = 0 | image() = 1 | drop(2, 5) = 1
+    /** The next TRIM makes 0, 0 go; there is no image; THE TEXT is at fault. */
+    private static final String DUE_WITHOUT = """
         set(3, 0) = 1 | put(0, 0, 77, 9, 4) = 0 | pin(0, 0, true) = 0 | put(0, 1, 78, 1, 4) = 0 | pin(0, 1, true) = 0
-        set(0, 5) = 20
-        pin(0, 0, false) = 1 | pin(0, 1, false) = 1 | trace("ga0;gb1;pa1=5") = 0 | trace("pb1=6;xb0") = 1
-        feed(113) = 1
+        set(0, 5) = 20 | pin(0, 0, false) = 1 | pin(0, 1, false) = 1 | trace("ga0;gb1;pa1=5") = 0
+        trace("pb1=6;xb0") = 1 | feed(113) = 1 | book(0, 0, 1) = 1 | book(0, 1, 1) = 2
+        tape(0, 1, 5) = 1 | item(0, 1, 0) = 1 | item(0, 2, 1) = 1 | judge(0, 1) = -5
         """ + TAPES;
-
-    /** Six traces, 100 signs, 8 rows of the book; CAPACITY 1, no image. */
-    private static final String FULL = """
-        set(0, 1) = 20 | put(0, 0, 5, 1, 5) = 0 | put(0, 1, 6, 1, 6) = 0 | put(0, 2, 7, 1, 7) = 0
-        trace("pa0=1") = 0 | trace("ga2") = 1 | trace("xa1") = 2 | trace("ga0") = 3 | trace("pa5=2") = 4
-        trace("pa1=1") = 5
-        book(0, 0, 0) = 1 | book(0, 0, 1) = 2 | book(0, 0, 2) = 3 | book(0, 0, 3) = 4 | book(0, 0, 4) = 5
-        book(0, 1, 3) = 6
-        book(0, 1, 1) = 7 | book(0, 2, 0) = 8
-        """ + "feed(103) = 1 | feed(97) = 2" + more(98) + "\n" + TAPES;
+    private static final String DUE = "put(2, 5, 9, 1, 9) = 0 | image() = 1 | drop(2, 5) = 1\n" + DUE_WITHOUT;
 
     private static final String REFUSED = """
         set(-1, 1) = NONE | set(4, 1) = NONE | set(MIN, 5) = NONE | set(0, 0) = BAD | set(0, 100) = BAD
@@ -93,6 +96,29 @@ final class NothingChangesTest {
         drop(3, 77) = 0 | tape(5, -1, 99) = 1
         """;
 
+    private static final String REFUSED_AT_FIRST = """
+        undo() = STATE | run(0) = NONE | would(0, 0) = NONE | need(0, 1) = NONE | odds(0, 1, 0) = NO
+        item(0, 0, 1) = NOTHING | shift(0, 0, 0, 0, 0) = NOTHING
+        set(0, 20) = 20 | set(1, 10) = 10 | set(2, 2) = 2 | set(3, 1) = 1 | book(-1, 4, 9) = 0
+        """;
+
+    private static final String REFUSED_BY_THINGS = """
+        put(0, 0, 9, 9, 9) = FULL | put(0, 1, 9, 9, 9) = FULL | put(0, 3, 9, 9, 9) = FULL | put(3, 77, 9, 9, 9) = FULL
+        pin(0, 0, true) = STATE | pin(0, 2, true) = STATE | pin(0, 0, false) = STATE | set(1, 9) = BAD
+        pin(0, 1, true) = 1 | pin(0, 5, false) = 0 | shift(0, 0, 0, 0, 5) = 5 | shift(0, 5, 0, 5, 0) = 0
+        set(2, 3) = 3 | set(3, 0) = 0 | run(2) = NONE | would(2, 0) = NONE
+        """;
+
+    private static final String REFUSED_WHEN_DUE = """
+        put(0, 0, 9, 6, 9) = FULL | put(0, 1, 9, 9, 9) = FULL | put(3, 77, 9, 6, 9) = FULL | set(1, 6) = BAD
+        pin(3, 0, true) = STATE | pin(0, 0, false) = 0 | set(2, 2) = 2 | set(3, 0) = 0 | run(1) = 0 | run(2) = NONE
+        """;
+
+    private static final String FULL_FOR_ALL = """
+        book(0, 0, 0) = FULL | book(3, 77, 4) = FULL | book(0, 0, 5) = BAD | book(4, 0, 0) = NONE
+        feed(-1) = BAD | feed(128) = BAD | run(6) = NONE | would(6, 0) = NONE
+        """;
+
     private static final String QUESTIONS = """
         victim(0) | victim(1) | victim(3) | victim(MAX) | looked() | gone(0) | gone(19) | gone(20) | gone(MAX)
         mean(1, 0) | mean(1, 1) | mean(2, 0) | mean(2, 1) | judge(0, 0) | judge(0, 1) | judge(0, -1) | judge(0, 5)
@@ -109,46 +135,42 @@ final class NothingChangesTest {
     }
 
     public static void main(String[] args) {
-        String byTapes = REFUSED + REFUSED_BY_TAPES + NOTHING_TO_DO;
-        same("a new object", "", REFUSED + NOTHING_TO_DO + "undo() = STATE | run(0) = NONE | would(0, 0) = NONE | "
-            + "need(0, 1) = NONE | odds(0, 1, 0) = NO"
-            + " | item(0, 0, 1) = NOTHING | shift(0, 0, 0, 0, 0) = NOTHING | set(0, 20) = 20 | set(1, 10) = 10 | "
-            + "set(2, 2) = 2 | set(3, 1) = 1 | book(-1, 4, 9) = 0");
-        same("a rich one", RICH, byTapes + "put(0, 0, 9, 9, 9) = FULL | put(0, 1, 9, 9, 9) = FULL | "
-            + "put(0, 3, 9, 9, 9) = FULL | put(3, 77, 9, 9, 9) = FULL"
-            + " | pin(0, 0, true) = STATE | pin(0, 2, true) = STATE | pin(0, 0, false) = STATE | "
-            + "pin(0, 1, true) = 1 | pin(0, 5, false) = 0 | set(1, 9) = BAD"
-            + " | shift(0, 0, 0, 0, 5) = 5 | shift(0, 5, 0, 5, 0) = 0 | set(2, 3) = 3 | set(3, 0) = 0 | "
-            + "run(2) = NONE | would(2, 0) = NONE");
-        same("one that is due", DUE, byTapes + "put(0, 0, 9, 6, 9) = FULL | put(0, 1, 9, 9, 9) = FULL | "
-            + "put(3, 77, 9, 6, 9) = FULL | set(1, 6) = BAD"
-            + " | pin(3, 0, true) = STATE | pin(0, 0, false) = 0 | set(2, 2) = 2 | set(3, 0) = 0 | run(1) = 0 | "
-            + "run(2) = NONE");
-        same("a full one", FULL, byTapes + "feed(103) = FULL | feed(0) = FULL | trace() = FULL | "
-            + "book(0, 0, 0) = FULL | book(3, 77, 4) = FULL"
-            + " | put(0, 0, 9, 2, 9) = FULL | put(0, 2, 9, 2, 9) = FULL | put(3, 77, 9, 2, 9) = FULL | "
-            + "undo() = STATE | set(1, 2) = BAD | run(4) = 0");
+        String any = REFUSED + REFUSED_BY_TAPES + NOTHING_TO_DO;
+        same("a new object", "", calls(REFUSED + NOTHING_TO_DO + REFUSED_AT_FIRST, true));
+        same("a rich one", RICH, calls(any + REFUSED_BY_THINGS, true));
+        same("one with a full text", FULL_TEXT, calls(FULL_FOR_ALL + "feed(103) = FULL | feed(0) = FULL", true));
+        same("one with six traces", SIX_TRACES, calls(FULL_FOR_ALL + "trace() = FULL", true));
+        same("one that is due", DUE, calls(any + REFUSED_WHEN_DUE, true));
+        same("one that is due, without an image", DUE_WITHOUT, calls("undo() = STATE", false));
         Script.end();
     }
 
-    private static String more(int signs) {
+    /** What is fed, as calls. */
+    private static String text(String signs) {
         StringBuilder lines = new StringBuilder();
-        for (int i = 0; i < signs; i++) {
-            lines.append(" | feed(49) = ").append(i + 3);
+        for (int i = 0; i < signs.length(); i++) {
+            lines.append("feed(").append((int) signs.charAt(i)).append(") = ").append(i + 1).append('\n');
         }
         return lines.toString();
     }
 
-    private static void same(String title, String ahead, String refused) {
-        List<String> calls = parts(refused);
-        calls.addAll(parts(QUESTIONS));
-        for (int what = 0; what < 14; what++) {
-            calls.add("told(" + what + ")");
-            calls.add("count(" + what % 7 + ")");
-            calls.add("of(0, " + what / 7 + ", " + what % 7 + ")");
-            calls.add("of(0, " + (2 + what / 7) + ", " + what % 7 + ")");
+    private static List<String> calls(String refused, boolean withQuestions) {
+        List<String> calls = Script.calls(refused);
+        if (withQuestions) {
+            calls.addAll(Script.calls(QUESTIONS));
+            for (int what = 0; what < 14; what++) {
+                calls.add("told(" + what + ")");
+                calls.add("count(" + what % 7 + ")");
+                calls.add("of(0, " + what / 7 + ", " + what % 7 + ")");
+                calls.add("of(0, " + (2 + what / 7) + ", " + what % 7 + ")");
+            }
         }
-        for (List<String> questions : allQuestions()) {
+        return calls;
+    }
+
+    private static void same(String title, String lines, List<String> calls) {
+        List<String> ahead = Script.calls(lines);
+        for (List<String> questions : Questions.all()) {
             List<Long> due = answers(title, ahead, "", questions);
             for (String call : calls) {
                 List<Long> got = answers(title, ahead, call, questions);
@@ -159,123 +181,24 @@ final class NothingChangesTest {
         }
     }
 
-    private static List<String> parts(String lines) {
-        List<String> parts = new ArrayList<>();
-        for (String line : lines.split("\n")) {
-            for (String part : line.split(" \\| ")) {
-                if (!part.isBlank()) {
-                    parts.add(part.strip());
-                }
-            }
-        }
-        return parts;
-    }
-
-    private static List<Long> answers(String title, String ahead, String call, List<String> questions) {
+    private static List<Long> answers(String title, List<String> ahead, String call, List<String> questions) {
         SegmentedCache cache = new SegmentedCache();
-        int calls = Script.play(title, ahead + "\n" + (call.contains("=") ? call : ""), cache) + 1;
-        if (!call.isEmpty() && !call.contains("=")) {
-            Script.answer(cache, call.substring(0, call.length() - 1));
+        int calls = 1 + questions.size();
+        for (String line : ahead) {
+            calls += Script.one(title, line, cache);
+        }
+        if (calls > Script.MOST_CALLS) {
+            throw new IllegalStateException(title + " makes " + calls + " calls");
+        }
+        if (call.contains(" = ")) {
+            Script.one(title, call, cache);
+        } else if (!call.isEmpty()) {
+            Script.answer(cache, call);
         }
         List<Long> answers = new ArrayList<>();
         for (String question : questions) {
-            answers.add(Script.answer(cache, question.substring(0, question.length() - 1)));
-        }
-        if (calls + questions.size() > Script.MOST_CALLS) {
-            throw new IllegalStateException(title + " makes " + (calls + questions.size()) + " calls");
+            answers.add(Script.answer(cache, question));
         }
         return answers;
-    }
-
-    /** Each list is asked of an object of its own, for some of them change it. */
-    private static List<List<String>> allQuestions() {
-        List<String> things = things();
-        List<String> undone = new ArrayList<>(List.of("undo()"));
-        undone.addAll(things);
-        List<String> ran = new ArrayList<>(List.of("trace()", "count(4)", "count(6)"));
-        for (int trace = 0; trace < 6; trace++) {
-            ran.add("run(" + trace + ")");
-            ran.add("told(8)");
-        }
-        ran.addAll(things);
-        return List.of(things, undone, ran, tapes(), gets(), puts());
-    }
-
-    private static List<String> things() {
-        List<String> all = new ArrayList<>();
-        for (int what = 0; what < 14; what++) {
-            all.add("told(" + what + ")");
-        }
-        for (int what = 0; what < 7; what++) {
-            all.add("count(" + what + ")");
-            for (int number = 0; number < 7; number++) {
-                all.add("of(0, " + number + ", " + what + ")");
-            }
-            all.add("of(2, 5, " + what + ")");
-            all.add("of(3, 77, " + what + ")");
-        }
-        for (int k = 0; k < 7; k++) {
-            for (int where = 1; where < 5; where++) {
-                all.add("key(" + where + ", " + k + ")");
-            }
-            all.add("gone(" + k + ")");
-            all.add("victim(" + k + ")");
-        }
-        all.add("looked()");
-        all.addAll(List.of("mean(1, 0)", "mean(1, 1)", "mean(2, 0)", "mean(2, 1)"));
-        for (int trace = 0; trace < 2; trace++) {
-            for (int what = 0; what < 6; what++) {
-                all.add("would(" + trace + ", " + what + ")");
-            }
-            all.addAll(List.of("need(" + trace + ", 1)", "odds(" + trace + ", 1, 0)", "odds(" + trace + ", 1, 1)"));
-        }
-        return all;
-    }
-
-    private static List<String> tapes() {
-        List<String> all = new ArrayList<>();
-        for (int tape = 0; tape < 6; tape++) {
-            for (int i = 0; i < 8; i++) {
-                all.add("read(" + tape + ", " + i + ")");
-            }
-            all.add("read(" + tape + ", 59)");
-            all.add("judge(" + tape + ", 0)");
-            all.add("judge(" + tape + ", 1)");
-            // The lowest bits tell which sort it is.
-            all.add("item(" + tape + ", 0, 6442549377)");
-            all.add("read(" + tape + ", 0)");
-        }
-        return all;
-    }
-
-    private static List<String> gets() {
-        List<String> all = new ArrayList<>();
-        for (int number = 0; number < 8; number++) {
-            all.addAll(List.of("get(0, " + number + ")", "told(8)", "told(9)", "told(10)", "told(11)", "told(13)"));
-        }
-        all.add("get(2, 5)");
-        all.add("get(3, 77)");
-        for (int number = 0; number < 8; number++) {
-            all.addAll(List.of("drop(0, " + number + ")", "looked()", "put(0, " + number + ", 1, 1, 1)", "looked()",
-                "drop(0, " + number + ")"));
-        }
-        all.add("book(-1, 0, 0)");
-        all.addAll(List.of("feed(103)", "feed(97)", "feed(49)", "trace()", "count(4)", "count(6)", "undo()",
-            "looked()"));
-        for (int number = 0; number < 8; number++) {
-            all.addAll(List.of("get(0, " + number + ")", "drop(0, " + number + ")", "looked()"));
-        }
-        all.add("get(2, 5)");
-        return all;
-    }
-
-    private static List<String> puts() {
-        List<String> all = new ArrayList<>();
-        for (int i = 0; i < 12; i++) {
-            all.addAll(List.of("put(3, " + (50 + i) + ", 1, 1, 1)", "of(3, " + (50 + i) + ", 4)", "get(3, " + (50
-                + i) + ")", "of(3, " + (50 + i) + ", 0)",
-                "told(1)", "told(4)", "told(5)", "told(6)", "told(7)", "told(13)", "gone(0)"));
-        }
-        return all;
     }
 }

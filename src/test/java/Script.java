@@ -1,5 +1,9 @@
 import java.lang.reflect.InvocationTargetException;
 import java.lang.reflect.Method;
+import java.util.ArrayList;
+import java.util.HashMap;
+import java.util.List;
+import java.util.Map;
 
 /**
  * Plays runs of calls that are written as text, one call a line, or several with " | " between them:
@@ -9,6 +13,12 @@ import java.lang.reflect.Method;
 final class Script {
     /** What an object answers behind so many calls is not promised. */
     static final int MOST_CALLS = 512;
+
+    /** Calls that were read once, so that long tests needn't read them again. */
+    private static final Map<String, Prepared> PREPARED = new HashMap<>();
+
+    /** A call, and the text that is fed ahead of it. */
+    private record Prepared(String text, Method method, Object[] arguments) { }
 
     private static int asked = 0;
     private static int wrong = 0;
@@ -26,22 +36,33 @@ final class Script {
 
     /** How many calls were made. */
     static int play(String title, String lines, SegmentedCache cache) {
-        int calls = 0;
+        int made = 0;
+        for (String call : calls(lines)) {
+            made += one(title, call, cache);
+        }
+        return made;
+    }
+
+    /** The calls, each with its answer. */
+    static List<String> calls(String lines) {
+        List<String> calls = new ArrayList<>();
         for (String line : lines.split("\n")) {
             if (!line.strip().startsWith("#")) {
                 for (String part : line.split(" \\| ")) {
-                    String call = part.strip();
-                    calls += call.isEmpty() ? 0 : one(title, call, cache);
+                    if (!part.isBlank()) {
+                        calls.add(part.strip());
+                    }
                 }
             }
         }
         return calls;
     }
 
-    private static int one(String title, String call, SegmentedCache cache) {
+    /** How many calls it is, for each sign that is fed is one. */
+    static int one(String title, String call, SegmentedCache cache) {
         int cut = call.lastIndexOf(") =");
         String due = call.substring(cut + 3).strip();
-        check(title + ": " + call, answer(cache, call.substring(0, cut)), number(due));
+        check(title + ": " + call, answer(cache, call.substring(0, cut + 1)), number(due));
         return 1 + (call.contains("\"") ? call.lastIndexOf('"') - call.indexOf('"') - 1 : 0);
     }
 
@@ -62,20 +83,25 @@ final class Script {
     }
 
     static long answer(SegmentedCache cache, String call) {
-        int cut = call.indexOf('(');
-        String name = call.substring(0, cut).strip();
-        String inside = call.substring(cut + 1).strip();
-        if (inside.startsWith("\"")) {
-            feed(cache, inside.substring(1, inside.length() - 1));
-            inside = "";
-        }
-        String[] words = inside.isEmpty() ? new String[0] : inside.split(",");
+        Prepared made = PREPARED.computeIfAbsent(call, Script::prepare);
+        feed(cache, made.text);
         try {
-            Method method = method(name);
-            return toLong(method.invoke(cache, arguments(method, words)));
+            return toLong(made.method.invoke(cache, made.arguments));
         } catch (IllegalAccessException | InvocationTargetException e) {
             throw new IllegalStateException(call, e);
         }
+    }
+
+    private static Prepared prepare(String call) {
+        int cut = call.indexOf('(');
+        Method method = method(call.substring(0, cut).strip());
+        String inside = call.substring(cut + 1, call.lastIndexOf(')')).strip();
+        String text = "";
+        if (inside.startsWith("\"")) {
+            text = inside.substring(1, inside.length() - 1);
+            inside = "";
+        }
+        return new Prepared(text, method, arguments(method, inside.isEmpty() ? new String[0] : inside.split(",")));
     }
 
     static void feed(SegmentedCache cache, String text) {
