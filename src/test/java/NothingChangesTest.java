@@ -11,39 +11,58 @@ final class NothingChangesTest {
         tape(3, 3, 2) = 1 | item(3, 1, MAX) = 1 | tape(4, 4, 2) = 1 | item(4, 0, 1) = 1
         """;
 
-    /**
-     * Ghosts of either, things of either, a pinned one, all that is counted above 0, rows of the book that are right,
-     * an older image, PROBATION told by a row of shorts; CAPACITY 8.
-     */
-    private static final String THINGS = """
+    /** Ghosts of either, things of either, a pinned one, all that is counted above 0; CAPACITY 8. */
+    private static final String AT_FIRST = """
         set(2, 1) = 2 | put(0, 0, 50, 8, 5) = 0 | get(0, 0) = 50 | put(0, 1, 51, 9, 6) = 0 | pin(0, 1, true) = 0
         set(0, 10) = 20 | set(3, 0) = 1 | put(0, 2, 52, 2, 7) = 0 | put(0, 3, 53, 1, 8) = 0 | get(0, 3) = 53
-        book(0, 0, 4) = 1 | book(0, 3, 2) = 2 | image() = 2
+        book(0, 0, 4) = 1 | book(0, 3, 2) = 2
+        """;
+    private static final String LATER = """
         put(0, 1, 61, 1, 9) = 2 | set(3, 2) = 0 | put(0, 4, 54, 3, 30) = 0 | set(3, 0) = 2 | put(0, 5, 55, 1, 40) = 0
         set(2, 3) = 1 | get(0, 5) = 55 | get(0, 0) = NO | get(3, 3) = NO | set(0, 8) = 10 | book(0, 5, 1) = 3
-        book(0, 2, 3) = 4 | looked() = -5
-        tape(0, 1, 5) = 1 | item(0, 1, 4) = 1 | item(0, 2, 5) = 1 | judge(0, 1) = -5
+        book(0, 2, 3) = 4
+        tape(0, 1, 5) = 1 | item(0, 1, 4) = 1 | item(0, 2, 5) = 1
         """ + TAPES;
+
+    /** With an older image; the BOOK is right, PROBATION is told by a row of shorts. */
+    private static final String THINGS = AT_FIRST + "image() = 2\n" + LATER;
     private static final String TWO_TRACES = """
         trace("pa6=4;ga4;ga5;xa2;ga0") = 0 | trace("pa0=3;pa2=2;ga1") = 1
         """;
-    private static final String RICH = THINGS + TWO_TRACES + "feed(103) = 1 | feed(97) = 2";
-    private static final String FULL_BOOK = "book(0, 1, 2) = 5 | book(0, 4, 1) = 6 | book(3, 77, 0) = 7 | "
-        + "book(2, 9, 0) = 8\n";
-    private static final String FULL_TEXT = THINGS + TWO_TRACES + FULL_BOOK + text("pa12=1;".repeat(13) + "ga12;ga12");
-    private static final String SIX_TRACES = THINGS + TWO_TRACES + FULL_BOOK + """
-        trace("ga5;xa4") = 2 | trace("pa9=8") = 3 | trace("xa1") = 4 | trace("ga3;ga3") = 5
-        feed(103) = 1 | feed(97) = 2
+    private static final String TWO_SIGNS = "feed(103) = 1 | feed(97) = 2";
+    private static final String RICH = THINGS + TWO_TRACES + TWO_SIGNS;
+
+    /** No image, a row of the BOOK that is otherwise, BORDER below CAPACITY. */
+    private static final String WITHOUT = AT_FIRST + LATER + TWO_TRACES + """
+        set(1, 5) = 8 | book(0, 4, 2) = 5 | book(0, 3, 2) = 6 | feed(112) = 1
         """;
 
-    /** The next TRIM makes 0, 0 go; there is no image; THE TEXT is at fault. */
-    private static final String DUE_WITHOUT = """
+    private static final String FULL_BOOK = "book(0, 1, 2) = 5 | book(0, 4, 1) = 6 | book(3, 77, 0) = 7 | "
+        + "book(2, 9, 1) = 8\n";
+    private static final String HUNDRED_SIGNS = text("pa12=1;".repeat(13) + "ga12;ga12");
+    private static final String FULL_TEXT = THINGS + TWO_TRACES + FULL_BOOK + HUNDRED_SIGNS;
+    private static final String MORE_TRACES = """
+        trace("ga5;xa4") = 2 | trace("pa9=8") = 3 | trace("xa1") = 4 | trace("ga3;ga3") = 5
+        """;
+    private static final String SIX_TRACES = THINGS + TWO_TRACES + FULL_BOOK + MORE_TRACES + TWO_SIGNS;
+
+    /** The next TRIM makes 0, 0 go; there is no image. */
+    private static final String DUE_AT_FIRST = """
         set(3, 0) = 1 | put(0, 0, 77, 9, 4) = 0 | pin(0, 0, true) = 0 | put(0, 1, 78, 1, 4) = 0 | pin(0, 1, true) = 0
-        set(0, 5) = 20 | pin(0, 0, false) = 1 | pin(0, 1, false) = 1 | trace("ga0;gb1;pa1=5") = 0
-        trace("pb1=6;xb0") = 1 | feed(113) = 1 | book(0, 0, 1) = 1 | book(0, 1, 1) = 2
-        tape(0, 1, 5) = 1 | item(0, 1, 0) = 1 | item(0, 2, 1) = 1 | judge(0, 1) = -5
+        set(0, 5) = 20 | set(1, 3) = 5 | pin(0, 0, false) = 1 | pin(0, 1, false) = 1 | trace("ga0;gb1;pa1=5") = 0
+        trace("pb1=6;xb0") = 1 | book(0, 0, 1) = 1 | book(0, 1, 1) = 2
+        tape(0, 1, 5) = 1 | item(0, 1, 0) = 1 | item(0, 2, 1) = 1
         """ + TAPES;
+
+    /** THE TEXT is at fault. */
+    private static final String DUE_WITHOUT = DUE_AT_FIRST + "feed(113) = 1";
     private static final String DUE = "put(2, 5, 9, 1, 9) = 0 | image() = 1 | drop(2, 5) = 1\n" + DUE_WITHOUT;
+    private static final String DUE_BOOK = """
+        book(0, 2, 0) = 3 | book(0, 3, 0) = 4 | book(0, 4, 0) = 5 | book(0, 5, 0) = 6 | book(3, 77, 0) = 7
+        book(2, 5, 1) = 8
+        """;
+    private static final String DUE_FULL_TEXT = DUE_AT_FIRST + DUE_BOOK + HUNDRED_SIGNS;
+    private static final String DUE_SIX_TRACES = DUE_AT_FIRST + DUE_BOOK + MORE_TRACES + TWO_SIGNS;
 
     private static final String REFUSED = """
         set(-1, 1) = NONE | set(4, 1) = NONE | set(MIN, 5) = NONE | set(0, 0) = BAD | set(0, 100) = BAD
@@ -106,7 +125,14 @@ final class NothingChangesTest {
         put(0, 0, 9, 9, 9) = FULL | put(0, 1, 9, 9, 9) = FULL | put(0, 3, 9, 9, 9) = FULL | put(3, 77, 9, 9, 9) = FULL
         pin(0, 0, true) = STATE | pin(0, 2, true) = STATE | pin(0, 0, false) = STATE | set(1, 9) = BAD
         pin(0, 1, true) = 1 | pin(0, 5, false) = 0 | shift(0, 0, 0, 0, 5) = 5 | shift(0, 5, 0, 5, 0) = 0
-        set(2, 3) = 3 | set(3, 0) = 0 | run(2) = NONE | would(2, 0) = NONE
+        run(2) = NONE | would(2, 0) = NONE
+        """;
+
+    private static final String SET_AS_IT_IS = """
+        set(0, 8) = 8 | set(1, 8) = 8 | set(2, 3) = 3 | set(3, 0) = 0
+        """;
+    private static final String ALL_AS_TOLD = """
+        looked() = -5 | judge(0, 1) = -5
         """;
 
     private static final String REFUSED_WHEN_DUE = """
@@ -118,6 +144,7 @@ final class NothingChangesTest {
         book(0, 0, 0) = FULL | book(3, 77, 4) = FULL | book(0, 0, 5) = BAD | book(4, 0, 0) = NONE
         feed(-1) = BAD | feed(128) = BAD | run(6) = NONE | would(6, 0) = NONE
         """;
+    private static final String TEXT_FULL = "feed(103) = FULL | feed(0) = FULL";
 
     private static final String QUESTIONS = """
         victim(0) | victim(1) | victim(3) | victim(MAX) | looked() | gone(0) | gone(19) | gone(20) | gone(MAX)
@@ -137,11 +164,14 @@ final class NothingChangesTest {
     public static void main(String[] args) {
         String any = REFUSED + REFUSED_BY_TAPES + NOTHING_TO_DO;
         same("a new object", "", calls(REFUSED + NOTHING_TO_DO + REFUSED_AT_FIRST, true));
-        same("a rich one", RICH, calls(any + REFUSED_BY_THINGS, true));
-        same("one with a full text", FULL_TEXT, calls(FULL_FOR_ALL + "feed(103) = FULL | feed(0) = FULL", true));
+        same("a rich one", RICH, calls(any + REFUSED_BY_THINGS + SET_AS_IT_IS + ALL_AS_TOLD, true));
+        same("one without an image", WITHOUT, calls(any + REFUSED_BY_THINGS + "undo() = STATE | looked() = 4", true));
+        same("one with a full text", FULL_TEXT, calls(FULL_FOR_ALL + TEXT_FULL, true));
         same("one with six traces", SIX_TRACES, calls(FULL_FOR_ALL + "trace() = FULL", true));
-        same("one that is due", DUE, calls(any + REFUSED_WHEN_DUE, true));
-        same("one that is due, without an image", DUE_WITHOUT, calls("undo() = STATE", false));
+        same("one that is due", DUE, calls(any + REFUSED_WHEN_DUE + ALL_AS_TOLD, true));
+        same("one that is due, without an image", DUE_WITHOUT, calls(REFUSED_WHEN_DUE + "undo() = STATE", false));
+        same("one that is due, with a full text", DUE_FULL_TEXT, calls(FULL_FOR_ALL + TEXT_FULL, true));
+        same("one that is due, with six traces", DUE_SIX_TRACES, calls(FULL_FOR_ALL + "trace() = FULL", true));
         Script.end();
     }
 
