@@ -37,8 +37,32 @@ final class FaceTest {
         for (Class<?> inside : SegmentedCache.class.getDeclaredClasses()) {
             Script.check(inside + " is static", inside.getModifiers() & Modifier.STATIC, Modifier.STATIC);
             Script.check(inside + " isn't public", inside.getModifiers() & Modifier.PUBLIC, 0);
+            names(inside);
+            statics(inside);
         }
+        names(SegmentedCache.class);
+        statics(SegmentedCache.class);
         Script.end();
+    }
+
+    /** None that isn't public bears the name of a public one. */
+    private static void names(Class<?> type) {
+        for (Method method : type.getDeclaredMethods()) {
+            boolean isOfFace = CALLS.stream().anyMatch(call -> call.contains(" " + method.getName() + "("));
+            boolean isPublic = Modifier.isPublic(method.getModifiers());
+            Script.check(method + " has a name of its own", isOfFace && !isPublic ? 1 : 0, 0);
+        }
+    }
+
+    /** Nothing is kept between objects: static fields are constants of a few types. */
+    private static void statics(Class<?> type) {
+        Set<Class<?>> due = Set.of(int.class, long.class, boolean.class, char.class, String.class);
+        for (Field field : type.getDeclaredFields()) {
+            if (Modifier.isStatic(field.getModifiers())) {
+                boolean isFinal = Modifier.isFinal(field.getModifiers());
+                Script.check(field + " is a constant", isFinal && due.contains(field.getType()) ? 1 : 0, 1);
+            }
+        }
     }
 
     private static String told(Method method) {

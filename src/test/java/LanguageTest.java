@@ -1,6 +1,10 @@
 import java.io.IOException;
 import java.nio.file.Files;
 import java.nio.file.Path;
+import java.util.ArrayList;
+import java.util.HashSet;
+import java.util.List;
+import java.util.Set;
 import java.util.regex.Matcher;
 import java.util.regex.Pattern;
 
@@ -26,7 +30,39 @@ final class LanguageTest {
         Script.check("texts joined by +", found(bare, "\"\\s*\\+|\\+\\s*\""), 0);
         Script.check("classes", Math.max(found(bare, "\\bclass\\b"), MOST_CLASSES), MOST_CLASSES);
         lengths(bare.split("\n"));
+        library(bare);
+        loops(bare);
         Script.end();
+    }
+
+    /** Of classes that aren't its own the program names three only, and of Math what rule 4 allows. */
+    private static void library(String bare) {
+        Set<String> known = new HashSet<>(Set.of("Math", "System", "Long"));
+        for (String own : all(bare, "\\bclass (\\w+)")) {
+            known.add(own);
+        }
+        for (String name : all(bare, "\\b([A-Z][a-z]\\w*)\\b")) {
+            Script.check("the program names " + name, known.contains(name) ? 1 : 0, 1);
+        }
+        for (String name : all(bare, "\\bMath\\.(\\w+)")) {
+            Script.check("of Math: " + name, Set.of("min", "max", "floorMod").contains(name) ? 1 : 0, 1);
+        }
+    }
+
+    /** Each loop counts up to a bound that stands in its own line. */
+    private static void loops(String bare) {
+        Script.check("loops without a counter", found(bare, "\\b(while|do)\\b"), 0);
+        String counted = "for \\(int (\\w+) = \\w+; \\1 <=? [\\w.\\[\\]]+( && [^;]+)?; \\1\\+\\+\\)";
+        Script.check("loops that count", found(bare, counted), found(bare, "\\bfor\\b"));
+    }
+
+    private static List<String> all(String bare, String pattern) {
+        Matcher matcher = Pattern.compile(pattern).matcher(bare);
+        List<String> names = new ArrayList<>();
+        while (matcher.find()) {
+            names.add(matcher.group(1));
+        }
+        return names;
     }
 
     /** Without comments, and with nothing in texts and signs. */
